@@ -13,6 +13,7 @@ public final class FsmReducer {
     private static final int ENTRIES = MOST_STATES * INPUTS;
     private static final int PAIRS = MOST_STATES * MOST_STATES;
     private static final int SETS = 1 << MOST_STATES;
+    private static final int SETS_WITH_INPUTS = SETS * INPUTS;
 
     /** What an output can be: 0, 1 or NONE. */
     private static final int OUTPUTS = 3;
@@ -35,7 +36,7 @@ public final class FsmReducer {
     private final int[] splitLengths = new int[PAIRS];
     private final int[] splitWords = new int[PAIRS];
 
-    private final int[] impliedSets = new int[SETS * INPUTS];
+    private final int[] impliedSets = new int[SETS_WITH_INPUTS];
     private final boolean[] isCompatible = new boolean[SETS];
 
     /** The compatible sets in rising order from place 1 on; place 0 holds 0, which means no set. */
@@ -287,7 +288,7 @@ public final class FsmReducer {
     }
 
     private void findCompatibleSets() {
-        // The list of no set is never against a cover, so 0 counts as compatible in here.
+        // A place without a set in a list holds 0, and that is never a reason against a cover.
         isCompatible[0] = true;
         candidateCount = 0;
         for (int set = 1; set <= allStates; set++) {

@@ -23,6 +23,7 @@ public final class PromisesTest {
         compatible();
         splitLength();
         splitWord();
+        longestSplit();
         compatibleSet();
         maximals();
         maximal();
@@ -296,6 +297,28 @@ public final class PromisesTest {
         due("splitLength(2, 3), 00 and 10", y.splitLength(2, 3), 2);
         y.set(3, 0, e(NONE, NONE));
         due("splitWord(2, 3), 10 alone", y.splitWord(2, 3), 2);
+    }
+
+    /** The shortest word of 1 and 2 goes through all ten twos of states: no word need be longer. */
+    private static void longestSplit() {
+        promise = "promises 6 and 7, the longest word";
+        FsmReducer x = new FsmReducer(5);
+        for (int input = 0; input < 2; input++) {
+            x.set(0, input, e(4, NONE));
+            x.set(1, input, e(3, NONE));
+            x.set(2, input, e(0, 0));
+            x.set(3, input, e(2, 1));
+            x.set(4, input, e(input, NONE));
+        }
+        int[] s = {2, 1, 1, 0, 0, 3, 0, 2, 0, 1};
+        int[] t = {3, 3, 4, 4, 2, 4, 1, 4, 3, 2};
+        int[] want = {0, 0, 4, 12, 12, 12, 12, 128 + 12, 128 + 12, 128 + 12};
+        for (int k = 0; k < 10; k++) {
+            String of = "(" + s[k] + ", " + t[k] + ")";
+            due("splitLength" + of, x.splitLength(s[k], t[k]), k + 1);
+            due("splitWord" + of, x.splitWord(s[k], t[k]), want[k]);
+            due("splitWord" + of + " turned round", x.splitWord(t[k], s[k]), want[k]);
+        }
     }
 
     private static void compatibleSet() {
