@@ -85,7 +85,7 @@ public final class BoundariesTest {
         coverOfOneSet();
         coverOfAsManySetsAsStates();
         coverOfEverySize();
-        coverAfterEverySet();
+        coverShrinksAndGrows();
         fewestSets();
         firstSetsCompared();
         secondSetsCompared();
@@ -158,11 +158,15 @@ public final class BoundariesTest {
     /** The first k states are all against each other (4 is like 0 but leads to 1), the rest is open. */
     private static FsmReducer firstSplit(int n, int k) {
         FsmReducer x = new FsmReducer(n);
-        for (int s = 0; s < k; s++) {
+        addSplits(x, 0, k);
+        return x;
+    }
+
+    private static void addSplits(FsmReducer x, int from, int to) {
+        for (int s = from; s < to; s++) {
             x.set(s, 0, e(s == 4 ? 1 : 0, s & 1));
             x.set(s, 1, e(0, s >> 1 & 1));
         }
-        return x;
     }
 
     private static FsmReducer allSplit(int n) {
@@ -917,33 +921,42 @@ public final class BoundariesTest {
         coverIs(ring(5), 1, 2, 4, 8, 16);
     }
 
+    /** The first k states are against each other and the others are open: these join the last set. */
+    private static void coverOfFirstSplitIs(FsmReducer x, int n, int k) {
+        due("coverSize() of " + of(n, k), x.coverSize(), k);
+        for (int i = 0; i < k - 1; i++) {
+            due("coverSet" + of(i) + " of " + of(n, k), x.coverSet(i), 1 << i);
+        }
+        due("coverSet" + of(k - 1) + " of " + of(n, k), x.coverSet(k - 1), all(n) - all(k - 1));
+        due("coverSet" + of(k) + " of " + of(n, k), x.coverSet(k), -1);
+    }
+
     private static void coverOfEverySize() {
         sentence = "Promise 12: \"How many sets the best cover has\"";
         for (int n = 2; n <= 5; n++) {
             for (int k = 1; k <= n; k++) {
-                FsmReducer x = firstSplit(n, k);
-                due("coverSize() of " + of(n, k), x.coverSize(), k);
-                for (int i = 0; i < k - 1; i++) {
-                    due("coverSet" + of(i) + " of " + of(n, k), x.coverSet(i), 1 << i);
-                }
-                int rest = all(n) - all(k - 1);
-                due("the last set of " + of(n, k), x.coverSet(k - 1), rest);
+                coverOfFirstSplitIs(firstSplit(n, k), n, k);
             }
         }
     }
 
-    private static void coverAfterEverySet() {
-        sentence = "Promises 12 and 13: a cover that shrinks and grows again";
-        FsmReducer x = allSplit(3);
-        coverIs(x, 1, 2, 4);
-        int before = x.set(2, 1, 0);
-        coverIs(x, 2, 5);
-        x.set(1, 0, 0);
-        coverIs(x, 7);
-        x.set(2, 1, before);
-        coverIs(x, 3, 4);
-        x.set(1, 0, e(0, 1));
-        coverIs(x, 1, 2, 4);
+    private static void coverShrinksAndGrows() {
+        sentence = "Promises 12 and 13: nothing is left of an earlier cover";
+        for (int n = 2; n <= 5; n++) {
+            FsmReducer x = allSplit(n);
+            for (int k = n - 1; k >= 1; k--) {
+                x.set(k, 0, 0);
+                x.set(k, 1, 0);
+                coverOfFirstSplitIs(x, n, k);
+            }
+            addSplits(x, 1, n);
+            coverOfFirstSplitIs(x, n, n);
+            for (int s = 0; s < n; s++) {
+                x.set(s, 0, 0);
+                x.set(s, 1, 0);
+            }
+            coverIs(x, all(n));
+        }
     }
 
     private static void fewestSets() {
