@@ -2,12 +2,14 @@ import java.util.ArrayList;
 import java.util.List;
 
 /**
- * Many machines against a slow model that follows the document's terms word by word: it tries all
- * words, all sets and all lists of sets.
+ * Every machine of two states, and many greater ones, against a slow model that follows the
+ * document's terms word by word: it tries all words, all sets and all lists of sets.
  */
 public final class ModelTest {
     private static final int NONE = FsmReducer.NONE;
     private static final int MACHINES = 3000;
+    /** Four entries of 0 .. 8 each. */
+    private static final int MACHINES_OF_TWO = 9 * 9 * 9 * 9;
     /** One more than the number of unordered twos of five states, so longer ones would be seen. */
     private static final int LONGEST = 11;
 
@@ -26,6 +28,9 @@ public final class ModelTest {
         for (number = 0; number < MACHINES && wrong < 20; number++) {
             tryMachine();
         }
+        for (number = 0; number < MACHINES_OF_TWO && wrong < 20; number++) {
+            tryMachineOfTwo();
+        }
         System.out.println(wrong == 0 ? "all machines are as the model" : wrong + " answers are not as due");
         if (wrong != 0) {
             System.exit(1);
@@ -41,13 +46,12 @@ public final class ModelTest {
     private static void due(String call, long got, long want) {
         if (got != want) {
             wrong++;
-            System.out.println("machine " + number + ": " + call + " answered " + got + ", due is " + want);
+            System.out.println("machine " + number + " of " + n + " states: " + call + " answered " + got + ", due is " + want);
         }
     }
 
-    private static void tryMachine() {
-        n = number % 3 == 0 ? 2 + number / 3 % 4 : 5;
-        FsmReducer x = new FsmReducer(n);
+    private static FsmReducer newMachine(int states) {
+        n = states;
         next = new int[n][2];
         output = new int[n][2];
         for (int s = 0; s < n; s++) {
@@ -55,6 +59,23 @@ public final class ModelTest {
             output[s] = new int[] {NONE, NONE};
         }
         state = 0;
+        return new FsmReducer(n);
+    }
+
+    /** The digits of the number in base 9 are the entries. */
+    private static void tryMachineOfTwo() {
+        FsmReducer x = newMachine(2);
+        int digits = number;
+        for (int place = 0; place < 4; place++) {
+            trySet(x, place / 2, place % 2, digits % 9 / 3 - 1, digits % 3 - 1);
+            digits /= 9;
+        }
+        askAll(x);
+        tryRun(x, 8);
+    }
+
+    private static void tryMachine() {
+        FsmReducer x = newMachine(number % 3 == 0 ? 2 + number / 3 % 4 : 5);
         int openNext = pick(11);
         int openOutput = pick(11);
         int sets = 2 * n + pick(10);

@@ -1,8 +1,6 @@
-import java.lang.reflect.Constructor;
-import java.lang.reflect.Field;
 import java.lang.reflect.Member;
-import java.lang.reflect.Method;
 import java.lang.reflect.Modifier;
+import java.util.List;
 import java.util.TreeSet;
 
 /** Each promise of the document in turn, with answers worked out by hand. */
@@ -78,37 +76,43 @@ public final class PromisesTest {
     private static void publicFace() {
         promise = "the public face";
         due("NONE", FsmReducer.NONE, -1);
-        String want = "[FsmReducer(int), NONE, compatible(int,int), compatibleSet(int), coverSet(int), coverSize(),"
-            + " entry(int,int), implied(int,int), isCover(int,int,int), lost(), maximal(int), maximals(),"
-            + " read(int), restart(), set(int,int,int), splitLength(int,int), splitWord(int,int), states()]";
+        due("the class is public", Modifier.isPublic(FsmReducer.class.getModifiers()) ? 1 : 0, 1);
+        due("the class is final", Modifier.isFinal(FsmReducer.class.getModifiers()) ? 1 : 0, 1);
+        TreeSet<String> want = new TreeSet<>(List.of(
+            "public static final int FsmReducer.NONE",
+            "public FsmReducer(int)",
+            "public int FsmReducer.states()",
+            "public int FsmReducer.set(int,int,int)",
+            "public int FsmReducer.entry(int,int)",
+            "public int FsmReducer.compatible(int,int)",
+            "public int FsmReducer.splitLength(int,int)",
+            "public int FsmReducer.splitWord(int,int)",
+            "public int FsmReducer.compatibleSet(int)",
+            "public int FsmReducer.maximals()",
+            "public int FsmReducer.maximal(int)",
+            "public int FsmReducer.implied(int,int)",
+            "public int FsmReducer.coverSize()",
+            "public int FsmReducer.coverSet(int)",
+            "public int FsmReducer.isCover(int,int,int)",
+            "public void FsmReducer.restart()",
+            "public int FsmReducer.read(int)",
+            "public int FsmReducer.lost()"));
         TreeSet<String> seen = new TreeSet<>();
-        for (Field f : FsmReducer.class.getDeclaredFields()) {
-            addIfSeen(seen, f, f.getName());
-        }
-        for (Method m : FsmReducer.class.getDeclaredMethods()) {
-            addIfSeen(seen, m, shown(m.getName(), m.getParameterTypes()));
-        }
-        for (Constructor<?> c : FsmReducer.class.getDeclaredConstructors()) {
-            addIfSeen(seen, c, shown(c.getName(), c.getParameterTypes()));
-        }
-        if (!seen.toString().equals(want)) {
+        addVisible(seen, FsmReducer.class.getDeclaredFields());
+        addVisible(seen, FsmReducer.class.getDeclaredMethods());
+        addVisible(seen, FsmReducer.class.getDeclaredConstructors());
+        if (!seen.equals(want)) {
             wrong++;
             System.out.println(promise + ": is " + seen + ", due is " + want);
         }
     }
 
-    private static void addIfSeen(TreeSet<String> seen, Member m, String text) {
-        if (!Modifier.isPrivate(m.getModifiers())) {
-            seen.add(text);
+    private static void addVisible(TreeSet<String> seen, Member[] members) {
+        for (Member m : members) {
+            if (!Modifier.isPrivate(m.getModifiers())) {
+                seen.add(m.toString());
+            }
         }
-    }
-
-    private static String shown(String name, Class<?>[] types) {
-        StringBuilder s = new StringBuilder(name).append('(');
-        for (int i = 0; i < types.length; i++) {
-            s.append(i == 0 ? "" : ",").append(types[i].getSimpleName());
-        }
-        return s.append(')').toString();
     }
 
     private static void newObject() {
