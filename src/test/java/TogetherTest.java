@@ -10,7 +10,8 @@ import java.util.function.ToIntFunction;
  * made, and what set, restart and read change, or leave as it was, for all that is asked later.
  *
  * What is due is told by a twin, an object made new that went another way to the same machine, and,
- * for the run, by the machine's own table. No object here gets more than 512 calls.
+ * for the run, by the machine's own table. No object whose answers are looked at gets more than 512
+ * calls.
  */
 public final class TogetherTest {
     private static final int NONE = FsmReducer.NONE;
@@ -20,6 +21,9 @@ public final class TogetherTest {
     private static final int READS = 5;
     /** So many questions an object gets at most, as it gets only 512 calls. */
     private static final int MOST_QUESTIONS = 400;
+
+    private static final int[] ARGUMENTS = {MIN, MIN + 1, -65536, -32, -3, -2, -1, 0, 1, 2, 3, 4, 5, 6, 8,
+        15, 16, 17, 18, 31, 32, 33, 64, 65536, 1 << 30, MAX - 1, MAX};
 
     private static int wrong = 0;
     private static String sentence = "";
@@ -42,6 +46,7 @@ public final class TogetherTest {
             coverAndIsCoverAgree(m);
         }
         objectsAreApart(machines);
+        noCallThrows();
         System.out.println(wrong == 0 ? "all sentences hold together" : wrong + " answers are not as due");
         if (wrong != 0) {
             System.exit(1);
@@ -534,6 +539,44 @@ public final class TogetherTest {
             asDue("sets in turn", x, one, one.placeAfter(0, 0), 0);
             asDue("sets in turn", y, other, other.placeAfter(0, 0), 1);
         }
+    }
+
+    /** LANGUAGE.md, rule 7. The answers are free, as these are far more calls than 512. */
+    private static void noCallThrows() {
+        for (int n : ARGUMENTS) {
+            FsmReducer x = new FsmReducer(n);
+            for (int a : ARGUMENTS) {
+                for (int b : ARGUMENTS) {
+                    for (int c : ARGUMENTS) {
+                        x.set(a, b, c);
+                        x.isCover(a, b, c);
+                    }
+                    callWithTwo(x, a, b);
+                }
+                callWithOne(x, a);
+            }
+        }
+    }
+
+    private static void callWithTwo(FsmReducer x, int a, int b) {
+        x.entry(a, b);
+        x.compatible(a, b);
+        x.splitLength(a, b);
+        x.splitWord(a, b);
+        x.implied(a, b);
+        x.read(a);
+        x.read(b);
+        x.lost();
+    }
+
+    private static void callWithOne(FsmReducer x, int a) {
+        x.compatibleSet(a);
+        x.maximals();
+        x.maximal(a);
+        x.coverSize();
+        x.coverSet(a);
+        x.restart();
+        x.states();
     }
 
     // ---- What one promise says is what another says
